@@ -525,6 +525,14 @@ public final class CellarTurns {
             return false;
         }
 
+        boolean pass(char due) {
+            if (sign != due) {
+                return faulty(OUT_OF_PLACE);
+            }
+            advance();
+            return true;
+        }
+
         boolean atEnd() {
             return place >= length;
         }
@@ -892,7 +900,7 @@ public final class CellarTurns {
             }
             house.addBody(letters, kind, 0);
             tape.advance();
-            return passEnd();
+            return tape.pass(';');
         }
 
         private static int kindOf(Word word) {
@@ -924,7 +932,7 @@ public final class CellarTurns {
             }
             house.addNew(letters, tape.number);
             tape.advance();
-            return passEnd();
+            return tape.pass(';');
         }
 
         private boolean ringLine(House house) {
@@ -957,7 +965,7 @@ public final class CellarTurns {
             if (first != NONE) {
                 house.minds[first] = last;
             }
-            return passEnd();
+            return tape.pass(';');
         }
 
         private boolean pairLine(House house, int[] bits) {
@@ -977,7 +985,7 @@ public final class CellarTurns {
             bits[one] |= 1 << other;
             bits[other] |= 1 << one;
             tape.advance();
-            return passEnd();
+            return tape.pass(';');
         }
 
         private boolean oftenLine(House house) {
@@ -991,7 +999,7 @@ public final class CellarTurns {
             }
             house.often = tape.number;
             tape.advance();
-            return passEnd();
+            return tape.pass(';');
         }
 
         private boolean costsLine(House house) {
@@ -1000,7 +1008,7 @@ public final class CellarTurns {
             }
             house.costsTold = true;
             tape.advance();
-            return laws.readLaw(house.law) && passEnd();
+            return laws.readLaw(house.law, 0) && tape.pass(';');
         }
 
         private boolean planLine(House house, Plan plan) {
@@ -1027,7 +1035,7 @@ public final class CellarTurns {
             }
             plan.closeLine(many);
             tape.advance();
-            return passEnd();
+            return tape.pass(';');
         }
 
         private static int namesOf(Word word) {
@@ -1066,14 +1074,6 @@ public final class CellarTurns {
             }
             return body;
         }
-
-        private boolean passEnd() {
-            if (tape.sign != ';') {
-                return tape.faulty(OUT_OF_PLACE);
-            }
-            tape.advance();
-            return true;
-        }
     }
 
     /** Reads an E; the number that is handed on tells within how many of not and ( ) it lies. */
@@ -1084,12 +1084,7 @@ public final class CellarTurns {
             this.tape = tape;
         }
 
-        boolean readLaw(Law law) {
-            law.clear();
-            return choice(law, 0);
-        }
-
-        private boolean choice(Law law, int depth) {
+        boolean readLaw(Law law, int depth) {
             boolean right = test(law, depth);
             for (int i = 0; right && i < MOST_SIGNS; i++) {
                 if (tape.word != Word.AND && tape.word != Word.OR) {
@@ -1158,7 +1153,7 @@ public final class CellarTurns {
                 return right;
             }
             if (bracket) {
-                return choice(law, depth + 1) && passBracket();
+                return readLaw(law, depth + 1) && tape.pass(')');
             }
             law.add(value);
             return true;
@@ -1175,14 +1170,6 @@ public final class CellarTurns {
                 case MET: return Law.MET;
                 default: return Law.NOT;
             }
-        }
-
-        private boolean passBracket() {
-            if (tape.sign != ')') {
-                return tape.faulty(OUT_OF_PLACE);
-            }
-            tape.advance();
-            return true;
         }
     }
 
@@ -1317,9 +1304,7 @@ public final class CellarTurns {
 
         /** Changes minds without a cost, so that changeBack can take it back. */
         void change(int one, int other) {
-            int carried = minds[one];
-            minds[one] = minds[other];
-            minds[other] = carried;
+            swapMinds(one, other);
             join(one, other);
             turns++;
             settle(one);
@@ -1327,9 +1312,7 @@ public final class CellarTurns {
         }
 
         void changeBack(int one, int other) {
-            int carried = minds[one];
-            minds[one] = minds[other];
-            minds[other] = carried;
+            swapMinds(one, other);
             met[one] &= ~(1 << other);
             met[other] &= ~(1 << one);
             sat[one]--;
@@ -1338,6 +1321,12 @@ public final class CellarTurns {
             turns--;
             settle(one);
             settle(other);
+        }
+
+        void swapMinds(int one, int other) {
+            int carried = minds[one];
+            minds[one] = minds[other];
+            minds[other] = carried;
         }
 
         private void join(int one, int other) {
@@ -1776,17 +1765,20 @@ public final class CellarTurns {
         }
 
         private void followRows(int turnsLeft, long taken) {
-            if (turnsLeft <= 0) {
-                countRow(taken);
-                return;
-            }
             long rest = muddle.openPairs();
             for (int many = Long.bitCount(rest); many > 0; many--) {
                 int pair = Long.numberOfTrailingZeros(rest);
                 rest &= rest - 1;
-                muddle.change(lesserOf(pair), greaterOf(pair));
-                followRows(turnsLeft - 1, taken | 1L << pair);
-                muddle.changeBack(lesserOf(pair), greaterOf(pair));
+                if (turnsLeft > 1) {
+                    muddle.change(lesserOf(pair), greaterOf(pair));
+                    followRows(turnsLeft - 1, taken | 1L << pair);
+                    muddle.changeBack(lesserOf(pair), greaterOf(pair));
+                } else {
+                    // Behind the last TURN only the minds are asked for, and these rows are the many.
+                    muddle.swapMinds(lesserOf(pair), greaterOf(pair));
+                    countRow(taken | 1L << pair);
+                    muddle.swapMinds(lesserOf(pair), greaterOf(pair));
+                }
             }
         }
 
