@@ -19,7 +19,7 @@ public final class AgainstPlainTest {
     private final StringBuilder told = new StringBuilder();
 
     public static void main(String[] args) {
-        int runs = args.length > 1 ? Integer.parseInt(args[1]) : 400;
+        int runs = args.length > 1 ? Integer.parseInt(args[1]) : 2500;
         long seed = args.length > 2 ? Long.parseLong(args[2]) : 1;
         mostRows = args.length > 3 ? Long.parseLong(args[3]) : mostRows;
         for (int run = 0; run < runs && wrong < 5; run++) {

@@ -145,6 +145,11 @@ public final class PromisesTest {
         lastIsWrong("person ", "person", 1);
         lastIsWrong("person ", "or", 1);
         lastIsWrong("person ", "abcdefghi", 1);
+        for (String word : ("person new price ring been bar often costs turn round fetch plain ill shy cat not and or")
+                .split(" ")) {
+            lastIsWrong("person ", word, 1);
+            lastIsWrong("new ", word, 1);
+        }
         lastIsWrong("person a", "1", 1);
         lastIsWrong("person a ", "b", 1);
         lastIsWrong("person a ", ";", 1);
@@ -288,6 +293,9 @@ public final class PromisesTest {
         costsOfFirstTurn("0 - 5 + 9", 4);
         costsOfFirstTurn("9999 * 9999 * 43", 4180747 > 999 ? 999 : 0);
         costsOfFirstTurn("9999 * 9999 * 22", 0);
+        CellarTurns full = Told.cellar(TWO + "costs " + "1+".repeat(480) + "1;");
+        full.turn(0, 1);
+        due("as long as the tape", full.count(6), 481);
         CellarTurns x = Told.cellar(THREE + "been a b;");
         x.turn(0, 2);
         due("without costs: wrong", x.count(6), 2);
@@ -628,6 +636,19 @@ public final class PromisesTest {
         x.turn(1, 3);
         due("one must be", x.best(), 1);
         due("none can", Told.cellar("person a plain; person b ill; ring a b;").best(), NONE);
+        StringBuilder bars = new StringBuilder();
+        for (char one = 'a'; one <= 'f'; one++) {
+            for (char other = (char) (one + 1); other <= 'f'; other++) {
+                bars.append("bar ").append(one).append(' ').append(other).append(';');
+            }
+        }
+        CellarTurns eight = Told.cellar(SIX + "new g price 1; new h price 1; ring a b c d e f;" + bars);
+        eight.fetch(6);
+        eight.fetch(7);
+        eight.turn(5, 6);
+        due("all eight are wrong", eight.turn(4, 7), 8);
+        // g has e's, h has d's: with e or with d one comes home.
+        due("seven then", eight.best(), 8 * 3 + 7);
     }
 
     private static void most() {
@@ -734,6 +755,13 @@ public final class PromisesTest {
         due("b c", y.cheap(3, 4), 8 + 2);
         due("no fourth", y.cheap(5, 5), NONE);
         due("costs so far are aside", costsAside(), 2);
+        CellarTurns five = Told.cellar(SIX + "ring a b c; ring d e; costs wrong * 5 + met * 2;");
+        // d e first leaves 3, 2, 0 wrong, behind 0, 1, 2 pairs.
+        due("d e first", five.cheap(3, 2), 8 * 3 + 4);
+        due("and that costs", five.cheap(3, 0), 25 + 6);
+        CellarTurns all = Told.cellar(FOUR + "been a b; ring a b;");
+        due("five turns", all.cheap(5, 1), 5);
+        due("the fifth", all.cheap(5, 6) != NONE, true);
         due("none wrong", Told.cellar(FOUR).cheap(5, 0), 0);
         due("by none", Told.cellar(TWO + "been a b; ring a b;").cheap(5, 0), NONE);
         for (int t : new int[] {-1, 6, MOST, LEAST}) {
