@@ -291,7 +291,8 @@ public final class PromisesTest {
         costsOfFirstTurn("999", 999);
         costsOfFirstTurn("1000", 999);
         costsOfFirstTurn("0 - 5 + 9", 4);
-        costsOfFirstTurn("9999 * 9999 * 43", 4180747 > 999 ? 999 : 0);
+        // Wrapped these are 4172747 and -2095407274.
+        costsOfFirstTurn("9999 * 9999 * 43 - 417 * 9999 - 3157", 7);
         costsOfFirstTurn("9999 * 9999 * 22", 0);
         CellarTurns full = Told.cellar(TWO + "costs " + "1+".repeat(480) + "1;");
         full.turn(0, 1);
