@@ -10,6 +10,11 @@ final class Told {
         "(", ")", "<", "=", "+", "-", "*", ";", "0", "1", "9", "10", "999", "1000", "9999", "12345", "?", "A", "_",
         "ninelette", "eightlet", ",", "\n", "~"};
 
+    static final String TWO = "person a plain; person b plain;";
+    static final String THREE = TWO + "person c plain;";
+    static final String FOUR = THREE + "person d plain;";
+    static final String SIX = FOUR + "person e plain; person f plain;";
+
     private Told() {
     }
 
@@ -36,6 +41,28 @@ final class Told {
             throw new IllegalStateException("fault " + fault + " in " + text);
         }
         return x;
+    }
+
+    /** All eight BODIES are there, and what that cost is nothing. */
+    static CellarTurns eightThere(String more) {
+        CellarTurns x = cellar(SIX + "new g price 0; new h price 0;" + more);
+        x.fetch(6);
+        x.fetch(7);
+        return x;
+    }
+
+    /** All that can be told of the state by some fifty calls. */
+    static String state(CellarTurns x) {
+        StringBuilder s = new StringBuilder();
+        for (int what = 0; what <= 12; what++) {
+            s.append(x.count(what)).append(what < 12 ? ',' : ';');
+        }
+        int bodies = x.count(0);
+        for (int body = 0; body < bodies; body++) {
+            s.append(' ').append(x.body(body, 3)).append('.').append(x.body(body, 4)).append('.');
+            s.append(x.body(body, 5)).append('.').append(x.met(body));
+        }
+        return s.toString();
     }
 
     static String randomCellar(Random r) {
