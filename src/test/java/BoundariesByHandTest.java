@@ -655,6 +655,13 @@ public final class BoundariesByHandTest {
         Due.is("those behind are played", x.judged(1), 2);
         Due.is("and cost", x.judged(2), 50 + 2);
         CellarTurns none = withEvening(Told.TWO + "bar a b; ring a b;", "turn a b; turn a b;");
+        CellarTurns round = withEvening(Told.FOUR, "turn a b; round a b c; round a c d; round b c d;");
+        // a b; then a c d: c's is in d, d's in a, b's in c.
+        Due.is("a round left out", round.judged(0), 1);
+        Due.is("a round played, and none behind it", round.judged(1), 4);
+        Due.is("two and four", round.judged(2), 6);
+        Due.is("a round that undoes all", withEvening(Told.THREE + "ring c b a;", "round a b c;").judged(1), 0);
+        Due.is("the other way it does not", withEvening(Told.THREE + "ring c b a;", "round a c b;").judged(1), 3);
         Due.is("all left out", none.judged(1), 2);
         Due.is("cost nothing", none.judged(2), 0);
     }
@@ -698,6 +705,7 @@ public final class BoundariesByHandTest {
         x.turn(0, 1);
         Due.is("by a turn", x.rings(1), 2);
         CellarTurns y = cellar(Told.THREE + "ring a b;");
+        Due.is("one", y.rings(0) * 100 + y.rings(1) * 10 + y.rings(2), 121);
         y.turn(0, 1);
         for (int what = 0; what < 3; what++) {
             Due.is("undone " + what, y.rings(what), 0);

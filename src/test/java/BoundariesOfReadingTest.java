@@ -55,6 +55,7 @@ public final class BoundariesOfReadingTest {
         factsOfALaw();
         faultKeepsAll();
         newCellarKeepsNothing();
+        eachTextIsReadAnew();
         thirtyLines();
         bodiesOfAnEvening();
         notTheSameInALine();
@@ -720,6 +721,9 @@ public final class BoundariesOfReadingTest {
         costOfTurn("4 = 4", 1);
         costOfTurn("4 = 3", 0);
         costOfTurn("3 = 4", 0);
+        for (String nought : new String[] {"7 and 0", "0 or 0", "4 < 3", "3 = 4", "not 7"}) {
+            costOfTurn("5 - (" + nought + ") * 2", 5);
+        }
         costOfTurn("not 0 + not 0 + 3", 5);
         costOfTurn("not 2 * 3 + 4", 4);
     }
@@ -824,6 +828,34 @@ public final class BoundariesOfReadingTest {
         Due.is("an empty text", y.cellar(), 0);
         Due.is("is nobody", y.count(0), 0);
         Due.is("mind", y.mind(0), NONE);
+    }
+
+    private static void eachTextIsReadAnew() {
+        Due.by(3, "The TAPE is read as a CELLAR, whatever was read ahead of it");
+        String full = Told.SIX + "new g price 9; new h price 9; ring f e d c b a; been a b; bar c d; often 3; costs not 1;";
+        CellarTurns x = new CellarTurns();
+        for (int i = 0; i < 3; i++) {
+            Told.feed(x, full);
+            Due.is("a full one", x.cellar(), 0);
+            Due.is("all wrong", x.count(5), 6);
+            Told.feed(x, full + "?");
+            Due.is("and a faulty one", x.cellar(), 1 + 16 * full.length());
+        }
+        Told.feed(x, Told.TWO + "ring a c;");
+        Due.is("no NAME of another text", x.cellar(), 2 + 16 * (Told.TWO.length() + 7));
+        Told.feed(x, Told.FOUR + "costs 3;");
+        Due.is("a lesser one", x.cellar(), 0);
+        Due.same("the state", Told.state(x), Told.state(Told.cellar(Told.FOUR)));
+        Due.is("none wrong", x.count(5), 0);
+        Due.is("no pair been, no bar", x.left(), 6);
+        x.turn(0, 1);
+        Due.is("its own law", x.count(6), 3);
+        Told.feed(x, Told.SIX + "new g price 9; new h price 9; ring a z;");
+        Due.is("of eight none is z", x.cellar(), 2 + 16 * (Told.SIX.length() + 37));
+        Told.feed(x, "");
+        Due.is("nobody", x.cellar(), 0);
+        Due.is("no one", x.count(0), 0);
+        Due.is("none wrong", x.count(5), 0);
     }
 
     // Promise 4

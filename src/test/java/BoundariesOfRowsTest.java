@@ -146,6 +146,15 @@ public final class BoundariesOfRowsTest {
         // In k is a's, in l is k's, in a is l's: k a leaves k with l's, l with k's.
         Due.is("only a is wrong", one.fewest(5, 0), 1);
         Due.is("k a", one.fewest(5, 1), 2);
+        CellarTurns four = cellar(Told.TWO + "person k cat; person l cat; been a b; ring a b;");
+        // a k, b k, k l, a l: the cats are in each other then.
+        int[] row = {4, 2, 8 + 2, 16 + 3, 3, NONE};
+        for (int what = 0; what < row.length; what++) {
+            Due.is("four turns " + what, four.fewest(5, what), row[what]);
+        }
+        CellarTurns alone = cellar("person k cat; person a plain; person l cat; person b plain; ring k l; ring a b;"
+                + "bar k a; bar k l; bar k b;");
+        Due.is("a cat that can turn with nobody", alone.fewest(5, 0), 1);
     }
 
     // Promise 22
@@ -192,6 +201,8 @@ public final class BoundariesOfRowsTest {
         Due.is("for nothing", cellar(NEEDS_ONE + "new n price 1; new m price 0;").which(5), 4);
         Due.is("both for nothing", cellar(NEEDS_ONE + "new n price 0; new m price 0;").which(5), 3);
         Due.is("both at most", cellar(NEEDS_ONE + "new n price 999; new m price 999;").which(5), 3);
+        Due.is("of eight", cellar(Told.SIX + "ring a b; new n price 2; new m price 1;").which(1), 7);
+        Due.is("of eight, equal", cellar(Told.SIX + "ring a b; new n price 2; new m price 2;").which(1), 6);
     }
 
     // Promise 23
@@ -236,6 +247,12 @@ public final class BoundariesOfRowsTest {
             Due.is("by none", x.least(4, 1), 0);
             Due.is("no turn", x.least(4, 2), NONE);
         }
+        CellarTurns done = cellar(Told.SIX + "ring a b c;");
+        Due.is("two are needed", done.least(4, 1), 2);
+        done.turn(0, 1);
+        done.turn(1, 2);
+        Due.is("and none then", done.least(4, 1), 0);
+        Due.is("no turn", done.least(4, 2), NONE);
         CellarTurns home = cellar(Told.SIX);
         Due.is("none wrong", home.least(4, 0), 0);
         Due.is("by none", home.least(4, 1), 0);
@@ -251,6 +268,10 @@ public final class BoundariesOfRowsTest {
         Due.is("b e", x.least(2, 2), 8 + 4);
         Due.is("c d", x.least(2, 3), 16 + 3);
         Due.is("more are not needed", x.least(4, 1), 2);
+        CellarTurns cats = cellar("person k cat; person a plain; person l cat; person b plain; ring k a l b;");
+        // In a is k's, in l is a's, in b is l's, in k is b's: k b brings b's home, and only a is wrong.
+        Due.is("with cats one turn leaves one", cats.least(1, 0), 1);
+        Due.is("k b", cats.least(1, 2), 3);
         CellarTurns y = cellar(Told.TWO + "been a b; ring a b; new n price 1;");
         Due.is("n is not there", y.least(4, 0), 2);
         String ahead = Told.state(y);
@@ -327,6 +348,17 @@ public final class BoundariesOfRowsTest {
         // In a is c's, in b is a's, in c is b's; a c has been: a b gives b c's, then b c.
         Due.is("two turns on", law.cheap(2, 0), 12 + 23);
         Due.is("cost so far is aside", law.count(6), 1);
+        CellarTurns sooner = cellar(Told.SIX + "ring a b; ring c d e; costs wrong;");
+        // a b first leaves 3, then 2, then 0; c d first leaves 4.
+        int[] row = {5, 3, 1, 16 + 3, 24 + 4, NONE};
+        for (int what = 0; what < row.length; what++) {
+            Due.is("the first row is the cheapest: " + what, sooner.cheap(3, what), row[what]);
+        }
+        CellarTurns later = cellar(Told.SIX + "ring a b c; ring d e; costs wrong * 5 + met * 2;");
+        Due.is("the last row is the cheapest: 15 and 0, 10 and 2, 0 and 4", later.cheap(3, 0), 31);
+        Due.is("d e", later.cheap(3, 2), 24 + 4);
+        CellarTurns clock = cellar(Told.SIX + "ring a b c; ring d e; costs wrong * 5 + turns * 2;");
+        Due.is("likewise by turns", clock.cheap(3, 0), 31);
         CellarTurns longer = cellar(Told.FOUR + "ring a b; costs 100 * (turns = 0) * (wrong = 0) + 2;");
         Due.is("by one", longer.cheap(2, 0), 102);
         Due.is("by three it is less", longer.cheap(3, 0), 6);
@@ -391,6 +423,8 @@ public final class BoundariesOfRowsTest {
         Due.by(26, "what is likely is shared out alike at each TURN, cut; what was cut is lost");
         Due.is("a sixth", cellar(Told.FOUR + "ring a b;").chance(1), 166666);
         Due.is("a 28th", Told.eightThere("ring a b;").chance(1), 35714);
+        // Of a c then b c, and b c then a c, the second alone undoes the ring.
+        Due.is("one row of two", cellar(Told.THREE + "ring a b c; been a b;").chance(2), 500000);
         Due.is("and a 27th of it, twice", Told.eightThere("ring a b; ring c d;").chance(2), 2 * 1322);
         Due.is("a third, all of them", cellar("person k cat; person l cat; person m cat;").chance(1), 999999);
         // 333333 / 2 is 166666, six times.
@@ -611,6 +645,15 @@ public final class BoundariesOfRowsTest {
         Due.is("an ill one tells nothing", ill.look(1), 1);
         CellarTurns cat = cellar("person k cat; person b plain; person c plain;");
         Due.is("a cat does", cat.look(1), 0);
+        Due.is("eight there", Told.eightThere("").look(1), 0);
+        CellarTurns last = Told.eightThere("often 1;");
+        last.turn(0, 1);
+        last.turn(2, 3);
+        last.turn(4, 6);
+        Due.is("only f h are left: one row", last.look(1), NONE);
+        last.undo();
+        // e f, e g, e h, f g, f h, g h are left.
+        Due.is("four are left", last.look(1), 4);
     }
 
     // Promise 31
