@@ -852,6 +852,15 @@ public final class BoundariesOfReadingTest {
         Due.is("its own law", x.count(6), 3);
         Told.feed(x, Told.SIX + "new g price 9; new h price 9; ring a z;");
         Due.is("of eight none is z", x.cellar(), 2 + 16 * (Told.SIX.length() + 37));
+        for (int i = 0; i < 2; i++) {
+            Told.feed(x, "person a cat; person b ill; person c shy; ring a b c;");
+            Due.is("cats and others", x.cellar(), 0);
+        }
+        Told.feed(x, Told.THREE + "ring a b c;");
+        Due.is("where these were now are others", x.cellar(), 0);
+        Due.is("all wrong", x.count(5), 3);
+        Due.is("all may", x.left(), 3);
+        Due.is("as often as others", x.ready(0, 1, 2), true);
         Told.feed(x, "");
         Due.is("nobody", x.cellar(), 0);
         Due.is("no one", x.count(0), 0);
