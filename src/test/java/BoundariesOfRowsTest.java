@@ -272,6 +272,10 @@ public final class BoundariesOfRowsTest {
         // In a is k's, in l is a's, in b is l's, in k is b's: k b brings b's home, and only a is wrong.
         Due.is("with cats one turn leaves one", cats.least(1, 0), 1);
         Due.is("k b", cats.least(1, 2), 3);
+        CellarTurns one = cellar("person k cat; person a plain; person b plain; ring k a b;");
+        // In a is k's, in b is a's, in k is b's: k b brings b's home, and only a is wrong.
+        Due.is("with one cat, the first, one turn leaves one", one.least(1, 0), 1);
+        Due.is("k b", one.least(1, 2), 2);
         CellarTurns y = cellar(Told.TWO + "been a b; ring a b; new n price 1;");
         Due.is("n is not there", y.least(4, 0), 2);
         String ahead = Told.state(y);
@@ -334,6 +338,12 @@ public final class BoundariesOfRowsTest {
         Due.is("b c", two.cheap(5, 3), 8 + 2);
         CellarTurns home = cellar(Told.FOUR + "costs 0;");
         Due.is("no turn, though some cost nothing", home.cheap(5, 1), 0);
+        CellarTurns cats = cellar("person k cat; person l cat; person a plain; ring k l;");
+        for (int turns = 0; turns <= 5; turns++) {
+            Due.is("cats in each other: cost by " + turns, cats.cheap(turns, 0), 0);
+            Due.is("cats in each other: turns by " + turns, cats.cheap(turns, 1), 0);
+            Due.is("cats in each other: no turn by " + turns, cats.cheap(turns, 2), NONE);
+        }
     }
 
     private static void cheapByCost() {
