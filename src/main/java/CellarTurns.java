@@ -1008,7 +1008,7 @@ public final class CellarTurns {
             }
             house.costsTold = true;
             tape.advance();
-            return laws.readLaw(house.law, 0) && tape.pass(';');
+            return laws.readLaw(house.law) && tape.pass(';');
         }
 
         private boolean planLine(House house, Plan plan) {
@@ -1084,7 +1084,11 @@ public final class CellarTurns {
             this.tape = tape;
         }
 
-        boolean readLaw(Law law, int depth) {
+        boolean readLaw(Law law) {
+            return tests(law, 0);
+        }
+
+        private boolean tests(Law law, int depth) {
             boolean right = test(law, depth);
             for (int i = 0; right && i < MOST_SIGNS; i++) {
                 if (tape.word != Word.AND && tape.word != Word.OR) {
@@ -1153,7 +1157,7 @@ public final class CellarTurns {
                 return right;
             }
             if (bracket) {
-                return readLaw(law, depth + 1) && tape.pass(')');
+                return tests(law, depth + 1) && tape.pass(')');
             }
             law.add(value);
             return true;

@@ -14,6 +14,7 @@ public final class BoundariesByHandTest {
         othersThanBodies();
         priceOfOthers();
         catsAreNeverWrong();
+        wrongOfEachBody();
         satOfABody();
         othersThanMinds();
         mindsOfThoseNotThere();
@@ -124,6 +125,21 @@ public final class BoundariesByHandTest {
         Due.is("a cat with a cat's is not", x.body(2, 6), 0);
         Due.is("in all", x.count(5), 1);
         Due.is("an ill one is", cellar("person a ill; person b shy; ring a b;").count(5), 2);
+    }
+
+    private static void wrongOfEachBody() {
+        Due.by(5, "6: 1 WRONG: from the first BODY to the last, a new one, too");
+        CellarTurns x = Told.eightThere("ring a c; ring d f;");
+        int[] told = {1, 0, 1, 1, 0, 1, 0, 0};
+        for (int body = 0; body < told.length; body++) {
+            Due.is("told " + body, x.body(body, 6), told[body]);
+        }
+        x.turn(1, 7);
+        x.turn(0, 2);
+        int[] then = {0, 1, 0, 1, 0, 1, 0, 1};
+        for (int body = 0; body < then.length; body++) {
+            Due.is("then " + body, x.body(body, 6), then[body]);
+        }
     }
 
     private static void satOfABody() {
@@ -664,6 +680,9 @@ public final class BoundariesByHandTest {
         Due.is("the other way it does not", withEvening(Told.THREE + "ring c b a;", "round a c b;").judged(1), 3);
         Due.is("all left out", none.judged(1), 2);
         Due.is("cost nothing", none.judged(2), 0);
+        CellarTurns twice = withEvening(Told.TWO + "new n price 50;", "fetch n; fetch n; turn a n; fetch n;");
+        Due.is("who is there is not fetched again", twice.judged(0), 1);
+        Due.is("nor paid for again", twice.judged(2), 50 + 2);
     }
 
     private static void judgedFromTheBegin() {

@@ -276,6 +276,11 @@ public final class BoundariesOfRowsTest {
         // In a is k's, in b is a's, in k is b's: k b brings b's home, and only a is wrong.
         Due.is("with one cat, the first, one turn leaves one", one.least(1, 0), 1);
         Due.is("k b", one.least(1, 2), 2);
+        CellarTurns with = cellar("person a plain; person k cat; ring a k;");
+        Due.is("only a is wrong now", with.least(0, 0), 1);
+        Due.is("and none behind one turn", with.least(1, 0), 0);
+        Due.is("one is enough", with.least(4, 1), 1);
+        Due.is("a k", with.least(4, 2), 1);
         CellarTurns y = cellar(Told.TWO + "been a b; ring a b; new n price 1;");
         Due.is("n is not there", y.least(4, 0), 2);
         String ahead = Told.state(y);
