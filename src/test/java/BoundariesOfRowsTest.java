@@ -35,6 +35,7 @@ public final class BoundariesOfRowsTest {
         cheapOfEqualOnes();
         cheapByCost();
         turnsOfMuddles();
+        muddlesFromAnyMuddle();
         muddlesBehindJustSoMany();
         turnsOfChance();
         chanceIsCut();
@@ -396,6 +397,38 @@ public final class BoundariesOfRowsTest {
         String ahead = Told.state(x);
         x.muddles(2);
         Due.same("nothing was done", Told.state(x), ahead);
+    }
+
+    private static void muddlesFromAnyMuddle() {
+        Due.by(25, "the most ways there can be, from whatever muddle");
+        muddlesOn("", "abcdef");
+    }
+
+    /** Each order of the six is a muddle (who stands first is in a, and so on); the ways are as many from each. */
+    private static void muddlesOn(String order, String others) {
+        if (others.isEmpty()) {
+            Due.is("two from " + order, Told.eightThere(ringsOf(order)).muddles(2), 112 + 210);
+        }
+        for (int i = 0; i < others.length(); i++) {
+            muddlesOn(order + others.charAt(i), others.substring(0, i) + others.substring(i + 1));
+        }
+    }
+
+    private static String ringsOf(String order) {
+        StringBuilder text = new StringBuilder();
+        boolean[] walked = new boolean[order.length()];
+        for (int body = 0; body < order.length(); body++) {
+            String ring = "";
+            for (int at = body; !walked[at]; at = order.charAt(at) - 'a') {
+                walked[at] = true;
+                // A ring tells first whose mind is in the next one, so it is told from its end.
+                ring = " " + (char) ('a' + at) + ring;
+            }
+            if (ring.length() > 2) {
+                text.append("ring").append(ring).append(';');
+            }
+        }
+        return text.toString();
     }
 
     private static void muddlesBehindJustSoMany() {
