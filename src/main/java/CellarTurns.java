@@ -879,7 +879,7 @@ public final class CellarTurns {
                 case BEEN: return pairLine(house, house.been);
                 case BAR: return pairLine(house, house.bars);
                 case OFTEN: return oftenLine(house);
-                case COSTS: return costsLine(house);
+                case COSTS: return laws.costsLine(house);
                 default: return tape.faulty(OUT_OF_PLACE);
             }
         }
@@ -1002,15 +1002,6 @@ public final class CellarTurns {
             return tape.pass(';');
         }
 
-        private boolean costsLine(House house) {
-            if (house.costsTold) {
-                return tape.faulty(TOLD_ALREADY);
-            }
-            house.costsTold = true;
-            tape.advance();
-            return laws.readLaw(house.law) && tape.pass(';');
-        }
-
         private boolean planLine(House house, Plan plan) {
             int many = namesOf(tape.word);
             if (many == 0) {
@@ -1076,7 +1067,7 @@ public final class CellarTurns {
         }
     }
 
-    /** Reads an E; the number that is handed on tells within how many of not and ( ) it lies. */
+    /** Reads the line of costs; the number that is handed on tells within how many of not and ( ) a part lies. */
     private static final class LawReader {
         private final Tape tape;
 
@@ -1084,8 +1075,13 @@ public final class CellarTurns {
             this.tape = tape;
         }
 
-        boolean readLaw(Law law) {
-            return tests(law, 0);
+        boolean costsLine(House house) {
+            if (house.costsTold) {
+                return tape.faulty(TOLD_ALREADY);
+            }
+            house.costsTold = true;
+            tape.advance();
+            return tests(house.law, 0) && tape.pass(';');
         }
 
         private boolean tests(Law law, int depth) {
