@@ -37,6 +37,7 @@ public final class BoundariesByHandTest {
         fetchesThatCantBe();
         fetchesAndPrices();
         nothingToUndo();
+        seenIsNotUndone();
         sixteenToUndo();
         undoGoesRoundAndRound();
         undoTakesAllBack();
@@ -509,6 +510,23 @@ public final class BoundariesByHandTest {
         Due.is("and no more", x.undo(), false);
         Due.is("count", x.count(11), 0);
         Due.is("what was SEEN stays", x.count(10), 1);
+    }
+
+    private static void seenIsNotUndone() {
+        Due.by(11, "UNDO: all of these: TURN, ROUND, FETCH; what was SEEN behind them stays");
+        CellarTurns x = cellar(Told.FOUR + "new n price 2;");
+        x.turn(0, 1);
+        x.see(0, 2);
+        x.round(1, 2, 3);
+        x.see(2, 0);
+        x.fetch(4);
+        x.see(1, 1);
+        for (int i = 0; i < 3; i++) {
+            Due.is("undo", x.undo(), true);
+            Due.is("SEEN", x.count(10), 3);
+        }
+        Due.is("a TURN that fits", x.rows(1), 1);
+        Due.is("it is that of 0 and 2", x.pair(1, 0, 2), 2);
     }
 
     private static void playPairs(CellarTurns x, int from, int to) {
